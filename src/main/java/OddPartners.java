@@ -693,7 +693,7 @@ public final class OddPartners {
         }
 
         int mateOf(int p) {
-            return net.has(p) ? mates[p] : -1;
+            return p >= 0 && p < ALL_PEOPLE ? mates[p] : -1;
         }
 
         boolean isFree(int p) {
