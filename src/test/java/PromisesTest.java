@@ -1,7 +1,5 @@
 /** Each promise of the document by answers worked out by hand: ordinary, at the edges, and wrong inputs. */
-public final class PromisesTest {
-    private static final int LEAST = Integer.MIN_VALUE, GREATEST = Integer.MAX_VALUE;
-    private static final long NO = Long.MIN_VALUE;
+public final class PromisesTest extends Houses {
     private static int checks = 0;
     private static int wrong = 0;
     private static int promise = 0;
@@ -44,35 +42,6 @@ public final class PromisesTest {
         if (wrong > 0) {
             System.exit(1);
         }
-    }
-
-    /** n PEOPLE; a link is 1000 i and 100 j and the WEIGHT, together: 1203 is 1, 2 with 3. */
-    private static OddPartners house(int n, int... links) {
-        OddPartners x = new OddPartners();
-        for (int k = 0; k < n; k++) {
-            x.person();
-        }
-        for (int link : links) {
-            x.weigh(link / 1000, link / 100 % 10, link % 100);
-        }
-        return x;
-    }
-
-    private static void pairUp(OddPartners x, int... twos) {
-        for (int two : twos) {
-            x.pair(two / 10, two % 10);
-        }
-    }
-
-    private static void feed(OddPartners x, String text) {
-        for (int k = 0; k < text.length(); k++) {
-            x.feed(text.charAt(k));
-        }
-    }
-
-    private static int read(OddPartners x, String text) {
-        feed(x, text);
-        return x.read();
     }
 
     private static void peopleAndWeights() {
