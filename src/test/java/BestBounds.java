@@ -121,6 +121,12 @@ final class BestBounds extends Bounds {
         x.pair(0, 1);
         due(x.parts(0), 5);
         due(house(7, 601).parts(0), 62);
+        // asked again, when some are OVER no more
+        x.weigh(0, 2, 1);
+        due(x.parts(0), 7);
+        x.person();
+        x.weigh(2, 3, 1);
+        due(x.parts(0), 0);
     }
 
     private static void edge() {
@@ -134,6 +140,19 @@ final class BestBounds extends Bounds {
         due(house(5, 101, 1201, 3401, 1301).parts(1), 2);
         due(house(7, 601, 6101).parts(1), 64);
         due(house(5, 101, 1201, 2301, 3401).parts(1), 2 + 8);
+        // each one, and none when asked again
+        for (int p = 0; p < 7; p++) {
+            OddPartners x = house(7);
+            for (int q = 0; q < 7; q++) {
+                x.weigh(p, q, 1);
+            }
+            due(x.parts(1), 1 << p);
+            x.weigh((p + 1) % 7, (p + 2) % 7, 1);
+            x.weigh((p + 3) % 7, (p + 4) % 7, 1);
+            x.weigh((p + 5) % 7, (p + 6) % 7, 1);
+            due(x.parts(1), 0);
+            due(x.parts(0), 127);
+        }
     }
 
     private static void rest() {
@@ -173,6 +192,20 @@ final class BestBounds extends Bounds {
         due(both.parts(4), 3);
         // whether LINKED counts, not the WEIGHT
         due(house(4, 320, 3101, 2320).parts(3), 8);
+        // each one, and nobody when asked again
+        for (int p = 0; p < 7; p++) {
+            OddPartners x = house(7);
+            for (int q = 0; q < 7; q++) {
+                x.weigh(p, q, 1);
+            }
+            due(x.parts(3), 1 << p);
+            x.weigh(p, (p + 1) % 7, 0);
+            x.weigh(p, (p + 2) % 7, 0);
+            x.weigh(p, (p + 3) % 7, 0);
+            due(x.parts(3), 1 << p);
+            x.weigh(p, (p + 4) % 7, 0);
+            due(x.parts(3), 0);
+        }
         // both of the last two
         due(house(7, 501, 601, 1501, 1601, 2501, 2601, 3501, 3601, 4501, 4601).parts(3), 96);
     }

@@ -68,6 +68,10 @@ final class EventBounds extends Bounds {
         due(weightBehind(x, 0, 3), 9);
         due(weightBehind(x, 0, 5, 0, 6), 0);
         due(weightBehind(x, 0, 6, 1, 6), 2);
+        due(weightBehind(x, 0, 6, 1, 0), 2);
+        due(weightBehind(x, 0, 6, 1, 6, 1, 6), 2);
+        due(weightBehind(x, 0, 6, 3, 0), 1);
+        due(weightBehind(x, 0, 6, 0, 4, 3, 0), 0);
     }
 
     private static void oneMore() {
@@ -108,6 +112,9 @@ final class EventBounds extends Bounds {
         due(weightBehind(house(2, 119), 2, 20), 0);
         due(weightBehind(house(2, 101), 2, 1), 1);
         due(weightBehind(house(2, 101), 2, 2), 0);
+        // they are LINKED no more
+        due(weightBehind(x, 2, 6, 1, 0), 6);
+        due(weightBehind(x, 2, 6, 3, 0), 1);
     }
 
     private static void allAreOne() {

@@ -102,9 +102,25 @@ final class TapeBounds extends Bounds {
         row(x, 1, LONGS, 9, 9, 1, 0, 4, -1, 2, 9);
         due(x.judge(1, 2), -5);
         due(x.judge(1, 1), 0);
-        // nobody has one
-        OddPartners free = house(7);
+        // nobody has one, or has one any more
+        OddPartners free = house(7, 101);
         row(free, 5, LONGS, -1, -1, -1, -1, -1, -1, -1);
+        due(free.judge(5, 0), -5);
+        free.pair(0, 1);
+        due(free.judge(5, 0), 0);
+        free.alone(0);
+        due(free.judge(5, 0), -5);
+        free.image();
+        free.take(0);
+        due(free.judge(5, 0), 0);
+        free.weigh(0, 1, 0);
+        due(free.judge(5, 0), -5);
+        free.take(1);
+        due(free.judge(5, 0), -5);
+        free.undo();
+        due(free.judge(5, 0), -5);
+        free.mend(1);
+        free.alone(1);
         due(free.judge(5, 0), -5);
         row(free, 5, LONGS, -1, -1, -1, -1, -1, -1, -5);
         due(free.judge(5, 0), 6);
