@@ -1,75 +1,35 @@
+import com.sun.source.tree.CompilationUnitTree;
+import com.sun.source.util.JavacTask;
+import com.sun.source.util.Trees;
 import java.io.IOException;
-import java.nio.charset.StandardCharsets;
 import java.nio.file.Files;
 import java.nio.file.Path;
-import java.util.regex.Matcher;
-import java.util.regex.Pattern;
+import java.util.List;
+import javax.tools.JavaCompiler;
+import javax.tools.JavaFileObject;
+import javax.tools.StandardJavaFileManager;
+import javax.tools.ToolProvider;
 
-/** What of ../shared/LANGUAGE.md a look at the text of the program can tell. */
+/** What of ../shared/LANGUAGE.md can be told by a look at the program; what its calls do tell the other tests. */
 public final class LanguageTest {
     private static final Path SOURCE = Path.of("src", "main", "java", "OddPartners.java");
-    private static final String[] REFUSED = {
-        "\\bthrow\\b", "\\bthrows\\b", "\\btry\\b", "\\bcatch\\b", "\\bfinally\\b", "\\bsynchronized\\b",
-        "\\bassert\\b", "\\bpackage\\b", "->", "::", "\\brecord\\b", "\\bvar\\b", "\\bequals\\b", "\\bhashCode\\b",
-        "\\btoString\\b", "\\bprotected\\b", "\\bfloat\\b", "\\bdouble\\b", "\\bnative\\b", "\\bvolatile\\b",
-        "Exact\\b", "\\bRandom\\b", "\\bSystem\\.(?!arraycopy\\b)", "\\bThread\\b", "\"",
-        "\\bArrays\\.(?!fill\\b|copyOf\\b|copyOfRange\\b)", "\\bMath\\.(?!max\\b|min\\b|abs\\b|floorDiv\\b|floorMod\\b)",
-        "\\bInteger\\.(?!bitCount\\b|compare\\b|max\\b|min\\b)", "\\bwhile\\s*\\(\\s*true", "for\\s*\\(\\s*;"};
-    private static int wrong = 0;
-
-    private static void due(boolean good, String what) {
-        if (!good) {
-            wrong++;
-            System.out.println("LANGUAGE.md: " + what);
-        }
-    }
 
     public static void main(String[] args) throws IOException {
-        byte[] bytes = Files.readAllBytes(SOURCE);
-        for (byte b : bytes) {
-            due(b > 0, "a sign outside 1 to 127");
-        }
-        String text = new String(bytes, StandardCharsets.US_ASCII);
-        String code = text.replaceAll("(?s)/\\*.*?\\*/", "").replaceAll("//[^\n]*", "");
-        for (String word : REFUSED) {
-            Matcher m = Pattern.compile(word).matcher(code);
-            due(!m.find(), "stands in the program: " + word);
-        }
-        imports(code);
-        made(code);
-        lengths(text);
-        System.out.println(wrong == 0 ? "no fault against LANGUAGE.md seen" : wrong + " faults");
-        if (wrong > 0) {
-            System.exit(1);
-        }
-    }
-
-    private static void imports(String code) {
-        Matcher m = Pattern.compile("import [^;]*;").matcher(code);
-        while (m.find()) {
-            due(m.group().equals("import java.util.Arrays;"), m.group());
-        }
-    }
-
-    /** No call makes an object: all are made where an object of the program is. */
-    private static void made(String code) {
-        for (String line : code.split("\n")) {
-            if (line.contains("new ")) {
-                boolean inField = line.matches("\\s*(private )?final [A-Za-z\\[\\]]+ \\w+ = new .*;");
-                boolean inConstructor = line.matches("\\s*(firsts|seconds|list\\[k\\]) = new .*;");
-                due(inField || inConstructor, "made in a call: " + line.trim());
+        JavaCompiler compiler = ToolProvider.getSystemJavaCompiler();
+        try (StandardJavaFileManager files = compiler.getStandardFileManager(null, null, null)) {
+            Iterable<? extends JavaFileObject> source = files.getJavaFileObjects(SOURCE);
+            JavacTask task = (JavacTask) compiler.getTask(null, files, null, List.of("-proc:none"), null, source);
+            CompilationUnitTree unit = task.parse().iterator().next();
+            task.analyze();
+            LanguageRules rules = new LanguageRules(Trees.instance(task), unit);
+            for (byte sign : Files.readAllBytes(SOURCE)) {
+                rules.due(sign > 0, 4, "a sign outside 1 to 127", unit);
+            }
+            rules.look();
+            System.out.println(rules.summary());
+            if (rules.wrong() > 0) {
+                System.exit(1);
             }
         }
-    }
-
-    private static void lengths(String text) {
-        Matcher m = Pattern.compile("(?ms)^( {4,8})(?:\\w[\\w\\[\\] ]*)\\([^)]*\\) \\{\n.*?^\\1\\}").matcher(text);
-        int methods = 0;
-        while (m.find()) {
-            methods++;
-            int lines = m.group().split("\n").length;
-            due(lines <= 60, lines + " lines: " + m.group().split("\n")[0].trim());
-        }
-        due(methods > 100, "only " + methods + " methods were seen");
     }
 }
