@@ -3,6 +3,7 @@ import java.util.Arrays;
 /** Partners in a house. The words in capitals are those of the document. */
 public final class OddPartners {
     public static final int NONE = -1, BAD = -2, STATE = -3, FULL = -4;
+    /** There is no such number. */
     public static final long NO = Long.MIN_VALUE;
 
     private static final int ABSENT = -5;
