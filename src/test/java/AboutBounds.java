@@ -43,6 +43,7 @@ final class AboutBounds extends Bounds {
 
     private static void inHouses(Consumer<OddPartners> look) {
         for (int number = 0; number < HOUSES; number++) {
+            at(", house " + number);
             look.accept(some(number));
         }
     }
@@ -209,6 +210,7 @@ final class AboutBounds extends Bounds {
         // three PEOPLE: for the heaviest PAIRS some HALVES prove it, for others none
         for (int weights = 0; weights < 64; weights++) {
             for (int two = 0; two < 4; two++) {
+                at(", weights " + weights + ", two " + two);
                 OddPartners x = three(weights, two);
                 boolean isHeaviest = x.told(3) == x.told(5);
                 due(proofsOf(weights, two) > 0 ? 1 : 0, isHeaviest ? 1 : 0);
@@ -323,6 +325,7 @@ final class AboutBounds extends Bounds {
     private static void events() {
         of("What it is", "events,");
         for (int number = 0; number < HOUSES; number++) {
+            at(", house " + number);
             OddPartners asked = some(number);
             OddPartners done = some(number);
             Random random = new Random(-number);
@@ -404,6 +407,7 @@ final class AboutBounds extends Bounds {
     private static void images() {
         of("What it is", "an image.");
         for (int number = 0; number < HOUSES; number++) {
+            at(", house " + number);
             OddPartners x = some(number);
             due(x.image(), x.told(0));
             x.person();

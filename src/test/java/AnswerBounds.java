@@ -3,6 +3,7 @@ final class AnswerBounds extends Bounds {
     @Override
     void run() {
         refusals();
+        whoHasNotCome();
         oneTwice();
         changesNothing();
         askedOnly();
@@ -52,6 +53,46 @@ final class AnswerBounds extends Bounds {
         x.tape(5, 1, 1);
         due(x.shift(0, -1, 5, -1, -1), -12);
         due(x.shift(0, -1, 0, -1, -1), -13);
+    }
+
+    private static void whoHasNotCome() {
+        of("Terms", "PEOPLE 0 .. 6, as they come.");
+        for (int n = 0; n <= 7; n++) {
+            for (int p = -3; p <= 40; p++) {
+                at(", " + n + " people, person " + p);
+                if (p < 0 || p >= n) {
+                    isNobody(house(n), p, n - 1);
+                }
+            }
+        }
+    }
+
+    /** Each call that names a PERSON refuses p, beside another one who is there. */
+    private static void isNobody(OddPartners x, int p, int other) {
+        due(x.weigh(p, other, 1), -1);
+        due(x.weigh(other, p, 1), -1);
+        due(x.of(p, other), -1);
+        due(x.of(other, p), -1);
+        due(x.pair(p, other), -1);
+        due(x.pair(other, p), -1);
+        due(x.alone(p), -1);
+        due(x.partner(p), -1);
+        due(x.best(0, p), -1);
+        due(x.best(1, p), -1);
+        due(x.loss(p), -1);
+        due(x.halves(p, 1), -1);
+        // i -1 asks for something else
+        due(x.see(p, other), p == -1 ? 0 : -1);
+        due(x.book(p, other), p == -1 ? 0 : -1);
+        due(other < 0 ? -1 : x.see(other, p), -1);
+        due(other < 0 ? -1 : x.book(other, p), -1);
+        due(x.fits(p, other, 0), -1);
+        due(x.fits(other, p, 0), -1);
+        due(x.odds(p, other, 0), NO);
+        due(x.odds(other, p, 1), NO);
+        due(x.event(0, p), -1);
+        due(x.event(1, p), -1);
+        due(x.count(1) + x.count(2) + x.count(3) + x.told(1), 0);
     }
 
     private static void oneTwice() {

@@ -13,6 +13,10 @@ abstract class Bounds extends Houses {
     private static Sentences sentences;
     private static String now = "";
     private static int checksOfNow = 1;
+    private static String where = "";
+    private static int wrongOfNow = 0;
+    /** So many faults of a sentence are told; how many more there are, behind them. */
+    private static final int TOLD = 4;
 
     abstract void run();
 
@@ -34,6 +38,8 @@ abstract class Bounds extends Houses {
         tests++;
         now = part + ", \"" + sentence + "\"";
         checksOfNow = 0;
+        wrongOfNow = 0;
+        where = "";
         String fault = sentences.mark(part, sentence);
         if (!fault.isEmpty()) {
             fault(fault);
@@ -44,14 +50,32 @@ abstract class Bounds extends Houses {
         if (checksOfNow == 0) {
             fault("nothing is looked at");
         }
+        if (wrongOfNow > TOLD) {
+            System.out.println(now + ": and " + (wrongOfNow - TOLD) + " more");
+        }
+    }
+
+    /** Where in a test that looks at many set-ups it stands now. */
+    static void at(String place) {
+        where = place;
     }
 
     static void fault(String what) {
         wrong++;
+        wrongOfNow++;
+        if (wrongOfNow > TOLD) {
+            return;
+        }
         int line = StackWalker.getInstance().walk(frames -> frames
                 .filter(f -> !f.getClassName().equals("Bounds")).findFirst()
                 .map(StackWalker.StackFrame::getLineNumber).orElse(0));
-        System.out.println(now + ", line " + line + ": " + what);
+        System.out.println(now + where + ", line " + line + ": " + what);
+    }
+
+    /** A fault of the tests themselves, against the whole document. */
+    static void lacks(String what) {
+        wrong++;
+        System.out.println("the document: " + what);
     }
 
     static void due(long got, long want) {

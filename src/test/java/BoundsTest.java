@@ -14,10 +14,10 @@ public final class BoundsTest {
         }
         Bounds.end();
         for (String rest : sentences.untested()) {
-            Bounds.fault("no test is of " + rest);
+            Bounds.lacks("no test is of " + rest);
         }
         if (sentences.promises() != 38) {
-            Bounds.fault("the document has " + sentences.promises() + " promises");
+            Bounds.lacks(sentences.promises() + " promises");
         }
         System.out.println(Bounds.summary());
         if (Bounds.wrong() > 0) {

@@ -5,7 +5,7 @@ public final class RandomRunsTest {
     private static final int CALLS = 512;
     /** In what waits to be fed: no sign, but a read. */
     private static final char READ = 256;
-    private static final int[] ENDS = {Integer.MIN_VALUE, Integer.MAX_VALUE, -2, -1, 7, 8, 20, 21, 60, 61, 127, 128};
+    private static final int[] ENDS = {Integer.MIN_VALUE, Integer.MAX_VALUE, -2, -1, 7, 8, 9, 10, 20, 21, 40, 41, 60, 61, 127, 128};
 
     private final Random random;
     private final OddPartners x = new OddPartners();

@@ -407,6 +407,16 @@ final class WayBounds extends Bounds {
         due(x.way(7), -1);
         due(x.way(LEAST), -1);
         due(x.way(GREATEST), -1);
+        // a longer one before leaves nothing behind
+        OddPartners shorter = house(7, 101, 1201, 2301, 3401, 4501);
+        pairUp(shorter, 12, 34);
+        due(shorter.way(5), 5);
+        shorter.weigh(0, 5, 1);
+        due(shorter.way(-1), 2);
+        for (int k = 2; k <= 60; k++) {
+            due(shorter.way(k), -1);
+            due(x.way(k + 2), -1);
+        }
         keeps(WayBounds::twoFree, y -> y.way(4), -1);
         keeps(WayBounds::twoFree, y -> y.way(-2), -1);
     }
@@ -466,6 +476,9 @@ final class WayBounds extends Bounds {
             due(x.flower(what, 7), -1);
             due(x.flower(what, LEAST), -1);
             due(x.flower(what, GREATEST), -1);
+            for (int k = what == 0 ? 3 : 5; k <= 60; k++) {
+                due(x.flower(what, k), -1);
+            }
         }
         keeps(Houses::much, y -> y.flower(0, 3), -1);
         keeps(Houses::much, y -> y.flower(1, -2), -1);
